@@ -1410,7 +1410,8 @@ public final class ThreeColours {
      * looks through all of them.
      */
     private static final class Canvas {
-        private static final long EACH_HIGH = 0x8080808080808080L;
+        private static final long EACH = 0x0101010101010101L;
+        static final long OVER = EACH << 7;
         private final Town town;
         private final Asker asker;
         final int[] choices = new int[THINGS];
@@ -1418,7 +1419,8 @@ public final class ThreeColours {
         final int[] gain = new int[THINGS * CHOICES];
         final int[] tally = new int[THINGS * CHOICES]; // GREY, painted, off: a byte each
         final long[] shown = new long[THINGS * CHOICES * MONTHS];
-        final long[] rest = new long[(THINGS + 1) * MONTHS]; // all that later THINGS may show
+        private final long[] rest = new long[(THINGS + 1) * MONTHS]; // all that later THINGS may show
+        private final long[] more = new long[(THINGS + 1) * MONTHS]; // how many of them may show something
         private final int[] hues = new int[THINGS * CHOICES];
         private final long[] spare = new long[MONTHS];
         private final long[] views = new long[THINGS * COLOURS];
@@ -1493,8 +1495,9 @@ public final class ThreeColours {
             }
             spare[row] = limits;
             rest[town.things * MONTHS + row] = 0;
+            more[town.things * MONTHS + row] = 0;
             for (int thing = town.things - 1; thing >= 0; thing--) {
-                long all = rest[(thing + 1) * MONTHS + row];
+                long all = 0;
                 for (int choice = 0; choice < CHOICES; choice++) {
                     if ((choices[thing] >> choice & 1) == 1) {
                         long view = viewOf(thing, town.shownIn(thing, hue(thing, choice), month), month);
@@ -1502,9 +1505,11 @@ public final class ThreeColours {
                         all |= view;
                     }
                 }
-                rest[thing * MONTHS + row] = all;
+                int slot = thing * MONTHS + row;
+                rest[slot] = all | rest[slot + MONTHS];
+                more[slot] = more[slot + MONTHS] + (counted(all) + 127 * EACH >>> 7 & EACH);
             }
-            if (tooMany(rest[row], limits) != 0 && !isTwice(row)) {
+            if (mayFail(row, 0, limits, limits) != 0 && !isTwice(row)) {
                 rows++;
             }
         }
@@ -1554,12 +1559,21 @@ public final class ThreeColours {
             return left;
         }
 
-        /** The highest bits of the bytes of all WINDOWS that see more colours than they may. */
-        static long tooMany(long seen, long spare) {
-            long twos = seen - (seen >>> 1 & 0x5555555555555555L);
-            long fours = (twos & 0x3333333333333333L) + (twos >>> 2 & 0x3333333333333333L);
-            long counted = fours + (fours >>> 4) & 0x0F0F0F0F0F0F0F0FL;
-            return counted + spare & EACH_HIGH;
+        /**
+         * The highest bits of the bytes of all WINDOWS that may yet see more colours than they may, with all that
+         * THINGS from one on can show: no more than all their colours, and no more than one colour each. The load
+         * is how many are seen and what is spare together: over the LIMIT it has the highest bit.
+         */
+        long mayFail(int slot, long seen, long load, long left) {
+            long open = load + more[slot] & OVER;
+            return open == 0 ? 0 : open & counted(seen | rest[slot]) + left;
+        }
+
+        /** How many bits each byte has. */
+        static long counted(long seen) {
+            long twos = seen - (seen >>> 1 & 85 * EACH);
+            long fours = (twos & 51 * EACH) + (twos >>> 2 & 51 * EACH);
+            return fours + (fours >>> 4) & 15 * EACH;
         }
     }
 
@@ -1568,9 +1582,7 @@ public final class ThreeColours {
         private static final int ALL = 0;
         private static final int ANY = 1;
         private static final int HIGHER = 2;
-        private static final int FAILS = 0;
-        private static final int OPEN = 1;
-        private static final int SAFE = 2;
+        private static final int FAILS = -1;
         private final Town town;
         private final Canvas canvas;
         private final long[] seen = new long[(THINGS + 1) * MONTHS];
@@ -1678,18 +1690,21 @@ public final class ThreeColours {
         }
 
         private void go() {
-            boolean safe = true;
+            int open = 0;
             for (int row = 0; row < canvas.rows; row++) {
-                safe = safe && Canvas.tooMany(canvas.rest[row], spare[row]) == 0;
+                if (canvas.mayFail(row, 0, spare[row], spare[row]) != 0) {
+                    open |= 1 << row;
+                }
             }
-            if (safe) {
+            if (open == 0) {
                 record(0, 0, 0);
             } else {
-                explore(0, 0, 0);
+                explore(0, 0, 0, open);
             }
         }
 
-        private void explore(int thing, int gained, int tallied) {
+        /** The open rows are those in which a WINDOW may yet see too much. */
+        private void explore(int thing, int gained, int tallied, int open) {
             if (thing >= town.things) {
                 return;
             }
@@ -1702,32 +1717,38 @@ public final class ThreeColours {
                 if (aim == HIGHER && gain + topGain[thing + 1] <= value) {
                     continue;
                 }
-                int state = look(thing, slot);
-                if (state == FAILS) {
+                int left = look(thing, slot, open);
+                if (left == FAILS) {
                     continue;
                 }
                 chosen[thing] = choice;
-                if (state == SAFE) {
+                if (left == 0) {
                     record(thing + 1, gain, tallied + canvas.tally[slot]);
                 } else {
-                    explore(thing + 1, gain, tallied + canvas.tally[slot]);
+                    explore(thing + 1, gain, tallied + canvas.tally[slot], left);
                 }
             }
         }
 
-        private int look(int thing, int slot) {
+        /** The rows that are still open with that choice of a THING. */
+        private int look(int thing, int slot, int open) {
             int from = thing * MONTHS;
             int to = from + MONTHS;
-            long open = 0;
+            int left = 0;
             for (int row = 0; row < canvas.rows; row++) {
-                long view = seen[from + row] | canvas.shown[slot * MONTHS + row];
-                if (Canvas.tooMany(view, spare[row]) != 0) {
-                    return FAILS;
+                if ((open >> row & 1) == 1) {
+                    long view = seen[from + row] | canvas.shown[slot * MONTHS + row];
+                    long load = Canvas.counted(view) + spare[row];
+                    if ((load & Canvas.OVER) != 0) {
+                        return FAILS;
+                    }
+                    seen[to + row] = view;
+                    if (canvas.mayFail(to + row, view, load, spare[row]) != 0) {
+                        left |= 1 << row;
+                    }
                 }
-                seen[to + row] = view;
-                open |= Canvas.tooMany(view | canvas.rest[to + row], spare[row]);
             }
-            return open == 0 ? SAFE : OPEN;
+            return left;
         }
 
         /** All that begin with what is chosen, whatever the THINGS from there on have, are GOOD. */
@@ -1790,7 +1811,7 @@ public final class ThreeColours {
             for (int row = 0; row < canvas.rows; row++) {
                 spare[row] = canvas.spareOf(row, (1 << WINDOWS) - 1, NONE);
                 seen[row] = 0;
-                open |= Canvas.tooMany(canvas.rest[row], spare[row]);
+                open |= canvas.mayFail(row, 0, spare[row], spare[row]);
             }
             cheapest[town.things] = 0;
             for (int thing = town.things - 1; thing >= 0; thing--) {
@@ -1844,7 +1865,7 @@ public final class ThreeColours {
             for (int row = 0; row < canvas.rows; row++) {
                 long view = seen[thing * MONTHS + row] | canvas.shown[slot * MONTHS + row];
                 seen[(thing + 1) * MONTHS + row] = view;
-                fails |= Canvas.tooMany(view, spare[row]);
+                fails |= Canvas.counted(view) + spare[row] & Canvas.OVER;
             }
             return fails;
         }
@@ -1854,7 +1875,7 @@ public final class ThreeColours {
             long fails = 0;
             for (int row = 0; row < canvas.rows; row++) {
                 int slot = thing * MONTHS + row;
-                fails |= Canvas.tooMany(seen[slot] | canvas.rest[slot], spare[row]);
+                fails |= canvas.mayFail(slot, seen[slot], Canvas.counted(seen[slot]) + spare[row], spare[row]);
             }
             return fails;
         }
