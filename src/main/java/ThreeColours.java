@@ -948,28 +948,23 @@ public final class ThreeColours {
                     return false;
                 }
                 step();
-            } else if (!readComparison(depth)) {
-                return false;
+            } else {
+                if (!readSum(depth)) {
+                    return false;
+                }
+                int order = token == '<' ? DO_LESS : token == '>' ? DO_MORE : DO_EQUAL;
+                if (order == DO_EQUAL && token != '=') {
+                    return false;
+                }
+                step();
+                if (!readSum(depth)) {
+                    return false;
+                }
+                write(order, 0);
             }
             if (turned) {
                 write(DO_NOT, 0);
             }
-            return true;
-        }
-
-        private boolean readComparison(int depth) {
-            if (!readSum(depth)) {
-                return false;
-            }
-            int order = token == '<' ? DO_LESS : token == '>' ? DO_MORE : DO_EQUAL;
-            if (order == DO_EQUAL && token != '=') {
-                return false;
-            }
-            step();
-            if (!readSum(depth)) {
-                return false;
-            }
-            write(order, 0);
             return true;
         }
 
@@ -1081,30 +1076,21 @@ public final class ThreeColours {
         }
 
         private int wordThere() {
-            int from = 0;
             int word = 0;
-            for (int to = 0; to < WORDS.length(); to++) {
-                if (WORDS.charAt(to) == ' ') {
-                    if (isThere(from, to)) {
+            int alike = 0; // so many letters are those of the word; NONE once one is not
+            for (int i = 0; i < WORDS.length(); i++) {
+                char sign = WORDS.charAt(i);
+                if (sign == ' ') {
+                    if (alike == next - at) {
                         return FIRST_WORD + word;
                     }
-                    from = to + 1;
                     word++;
+                    alike = 0;
+                } else if (alike != NONE) {
+                    alike = at + alike < next && text[at + alike] == sign ? alike + 1 : NONE;
                 }
             }
             return STRANGE_WORD;
-        }
-
-        private boolean isThere(int from, int to) {
-            if (to - from != next - at) {
-                return false;
-            }
-            for (int i = 0; i < next - at; i++) {
-                if (WORDS.charAt(from + i) != text[at + i]) {
-                    return false;
-                }
-            }
-            return true;
         }
     }
 
@@ -1193,7 +1179,7 @@ public final class ThreeColours {
                     pile[height - 1] = 1 - pile[height - 1];
                 } else if (order >= DO_OR && height > 0) {
                     if ((pile[height - 1] != 0) == (order == DO_OR)) {
-                        at = Math.max(at, argument - 1);
+                        at = argument > at ? argument - 1 : at;
                     } else {
                         height--;
                     }
