@@ -152,6 +152,20 @@ public final class ImageTest {
         town.month(5);
         town.back(0);
         Due.due("41: kept anew", town.count(12), 2);
+        // Two images with different laws of the same number.
+        town = new ThreeColours();
+        town.window(0, 0, 0);
+        town.image(0);
+        Due.law(town, "limit 6");
+        town.force(0);
+        town.image(1);
+        town.back(0);
+        Due.due("42: no law", town.count(3), 0);
+        Due.law(town, "limit 7");
+        town.force(0);
+        Due.due("42: another law 0", town.sees(0, 0, 1), 7);
+        town.back(1);
+        Due.due("42: the law 0 that was kept", town.sees(0, 0, 1), 6);
     }
 
     /** What was worked out ahead of going back is not answered any more. */

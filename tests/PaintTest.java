@@ -266,6 +266,28 @@ public final class PaintTest {
         town.turn(0, 2, 0);
         Due.due("31: walled up for nothing", town.mend(ALL, -1), 0);
         Due.due("32: it does not hold", town.shut(ALL), 1);
+        // Months in which different things are seen: one window each, walled up if that is cheaper than painting.
+        town = Due.under("limit 1;hidden if month=window");
+        town.thing(0, 1, 1, 4, 0);
+        town.thing(0, 2, 2, 4, 0);
+        town.thing(0, 3, 3, 4, 0);
+        town.window(3, 0, 9);
+        town.window(6, 0, 9);
+        town.bloom(0, 2, 7);
+        town.bloom(2, 1, 7);
+        Due.due("31: in month 0 things 1 and 2 are seen", town.mend(1, -1), 9);
+        Due.due("32: window 1", town.shut(1), 2);
+        Due.due("31: in month 1 things 0 and 1 are seen", town.mend(2, -1), 9);
+        Due.due("32: window 0", town.shut(2), 1);
+        Due.due("31: in both", town.mend(3, -1), 18);
+        Due.due("32: both", town.shut(3), 3);
+        Due.due("31: in another month all grey", town.mend(4, -1), 12);
+        Due.due("32: none", town.shut(4), 0);
+        Due.due("32: in all", town.shut(7), 3);
+        town.bloom(0, 0, 0);
+        Due.due("31: without bloom, in months 1 and 2", town.mend(6, -1), 12);
+        Due.due("31: in months 0 and 1", town.mend(3, -1), 8 + 9);
+        Due.due("32: window 1", town.shut(3), 2);
         town = Due.under("limit 1 if month=2");
         town.thing(0, 1, 1, 9, 0);
         town.thing(0, 2, 2, 9, 0);

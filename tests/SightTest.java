@@ -281,6 +281,10 @@ public final class SightTest {
         Due.due("25: no window", town.judge(1), -1);
         Due.due("25: no window", town.judge(2), 0);
         Due.due("26: no window", town.bad(0), -1);
+        ThreeColours other = Due.under("limit 0 if minute>11");
+        other.thing(0, 1, 0, 0, 0);
+        other.window(1, 0, 0);
+        Due.due("26: ahead of any judge", other.bad(0), 108);
         Due.law(town, "limit 1");
         town.force(0);
         town.thing(0, 1, 0, 0, 0);

@@ -185,6 +185,12 @@ public final class TapeTest {
         fault("limit -3", 6);
         fault("limit 3-", 8);
         fault("limit 3+*2", 8);
+        fault("limit 3*", 8);
+        fault("limit 3/", 8);
+        fault("limit 3*/2", 8);
+        fault("limit 3*4*;free", 10);
+        fault("free if 1=2*", 12);
+        fault("free if 1*=2", 10);
         fault("limit (3)", 6);
         fault("limit [3", 8);
         fault("limit [3)", 8);

@@ -38,6 +38,7 @@ public final class WayTest {
         }
         row(town, 0, 0, 0, 9, 0, 1, 2, 3, 4, 5, 6, 7, 8, 9);
         row(town, 0, 7, 9, 7, 9, 8, 7);
+        row(town, 0, 30, 2, 0, 2, 1, 0);
         town.street(9, 2, 1);
         row(town, 0, 0, 0, 9, 0, 1, 2, 9);
         town.street(2, 9, 0);
