@@ -1493,6 +1493,7 @@ public final class ThreeColours {
                 }
                 int slot = thing * MONTHS + row;
                 rest[slot] = all | rest[slot + MONTHS];
+                // 127 more reach the highest bit of each byte that is not 0.
                 more[slot] = more[slot + MONTHS] + (counted(all) + 127 * EACH >>> 7 & EACH);
             }
             if (mayFail(row, 0, limits, limits) != 0 && !isTwice(row)) {
