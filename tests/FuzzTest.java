@@ -34,6 +34,7 @@ public final class FuzzTest {
     private void go() {
         int calls = 20 + random.nextInt(120);
         int kind = random.nextInt(4);
+        boolean goesBack = random.nextInt(3) == 0;
         int town = random.nextInt(3);
         if (town == 0) {
             fill();
@@ -47,6 +48,9 @@ public final class FuzzTest {
             build();
         }
         for (int i = 0; i < calls && !pair.wrong && pair.run.size() < 500; i++) {
+            if (goesBack && random.nextInt(4) == 0) {
+                pair.call(random.nextBoolean() ? "image" : "back", random.nextInt(2));
+            }
             int n = random.nextInt(10);
             if (n == 0) {
                 odd();

@@ -166,6 +166,18 @@ public final class ImageTest {
         Due.due("42: another law 0", town.sees(0, 0, 1), 7);
         town.back(1);
         Due.due("42: the law 0 that was kept", town.sees(0, 0, 1), 6);
+        // The same with walks.
+        town = new ThreeColours();
+        town.person(0);
+        town.image(0);
+        town.walk(0, 5, 6);
+        town.image(1);
+        town.back(0);
+        town.walk(0, 7, 8);
+        Due.due("42: another walk", town.where(0, 9), 8);
+        town.back(1);
+        Due.due("42: the walk that was kept", town.where(0, 9), 6);
+        Due.due("42: from its minute on", town.where(0, 5), 6);
     }
 
     /** What was worked out ahead of going back is not answered any more. */

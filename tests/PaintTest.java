@@ -89,6 +89,15 @@ public final class PaintTest {
         town.put(0, 1, 5);
         town.put(0, 2, 0);
         Due.due("27: grey wished is worth something", town.best(1, 1), 23);
+        // The same VALUE by another PAINTING.
+        town = new ThreeColours();
+        town.thing(0, 1, 2, 1, 5);
+        Due.due("27: painted", town.best(1, 1), 4);
+        Due.due("28: painted", town.paint(1, 0), 2);
+        town.put(0, 3, 9);
+        town.thing(0, 3, 3, 0, 4);
+        Due.due("27: the same value", town.best(1, 1), 4);
+        Due.due("28: by another one", town.paint(1, 0), 1);
     }
 
     private static void firstOfBest() {
@@ -135,6 +144,17 @@ public final class PaintTest {
         Due.due("27: but in all the others", town.best(ALL - 32, 2), 2);
         town.month(5);
         Due.due("27: the month does not matter", town.best(1, 2), 4);
+        // Months that have the same colours in all, but by different things.
+        town = Due.under("limit 1;hidden if thing=month");
+        town.thing(0, 1, 2, 1, 1);
+        town.thing(0, 1, 2, 1, 1);
+        town.thing(0, 1, 1, 1, 1);
+        town.put(2, 5, 1);
+        town.window(7, 0, 0);
+        Due.due("27: thing 1 is one", town.best(1, 2), 3);
+        Due.due("27: thing 0 is one", town.best(2, 2), 3);
+        Due.due("27: both are", town.best(3, 2), 1);
+        Due.due("27: without either hidden", town.best(8, 2), 1);
     }
 
     private static void minuteNoughtAndNobodyOut() {
@@ -256,6 +276,22 @@ public final class PaintTest {
         Due.due("32: months 0", town.shut(0), -1);
         Due.due("32: months 4096", town.shut(4096), -1);
         Due.due("31: nothing is painted", town.of(1, 1), 3);
+        // Walling one up for 11, or painting for 5 and walling the other up for 6.
+        town = Due.under("limit 1");
+        town.thing(0, 1, 2, 5, 0);
+        town.thing(0, 2, 2, 50, 0);
+        town.thing(0, 1, 1, 50, 0);
+        town.window(3, 0, 11);
+        town.window(5, 0, 6);
+        Due.due("31: either way", town.mend(1, -1), 11);
+        Due.due("31: the first leaves thing 0", town.mend(1, 0), 1);
+        Due.due("32: and walls up window 0", town.shut(1), 1);
+        town.turn(0, 2, 12);
+        Due.due("31: painting and walling up", town.mend(1, -1), 11);
+        Due.due("31: thing 0 is painted", town.mend(1, 0), 2);
+        Due.due("32: and window 1 walled up", town.shut(1), 2);
+        town.thing(0, 4, 5, 0, 9);
+        Due.due("31: lower choices ahead where all cost nothing", town.mend(1, 3), 4);
         // A WINDOW that does not HOLD in one of the MONTHS is walled up once.
         town = Due.under("limit 0");
         town.thing(0, 1, 1, 0, 0);

@@ -35,6 +35,11 @@ public final class SightTest {
         town.thing(2, 0, 0, 9, 0);
         town.person(1);
         Due.due("23: thing, sort and the new colour", town.costs(1, 4), 20);
+        town.window(3, 1, 0);
+        town.window(3, 1, 0);
+        town.walk(0, 0, 0);
+        Due.due("24: ones and things", town.sees(1, 9, 0), 3);
+        Due.due("23: whatever was asked ahead", town.costs(1, 4), 20);
         Due.due("23: thing 0", town.costs(0, 2), 5);
         Due.due("23: it has that, whatever the law", town.costs(1, 0), 0);
         Due.due("23: 99 at most", town.costs(0, 7), 99);
@@ -370,5 +375,9 @@ public final class SightTest {
         town.window(3, 0, 0);
         Due.due("35: at minute 0", town.near(2), 0);
         Due.due("35: what is free does not count", town.near(1), 1);
+        town.thing(0, 3, 0, 0, 0);
+        town.thing(0, 4, 0, 0, 0);
+        town.turn(0, 0, 15);
+        Due.due("35: the limit at minute 0", town.near(2), 1);
     }
 }

@@ -173,6 +173,11 @@ public final class TapeTest {
         fault("free 3", 5);
         fault("hidden hidden", 7);
         fault("limits 3", 0);
+        fault("freez", 0);
+        fault("afree", 0);
+        fault("if 1=1", 0);
+        fault("limit limit", 6);
+        fault("limit 3z", 7);
         fault("  Limit 3", 2);
         fault("lim it 3", 0);
         fault("limit 3 3", 8);

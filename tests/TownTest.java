@@ -324,6 +324,7 @@ public final class TownTest {
         Due.due("15: an earlier minute told later", town.where(0, 60), 6);
         Due.due("15: the earlier minute", town.where(0, 10), 0);
         Due.due("15: minute 120", town.where(0, 120), -1);
+        Due.due("15: minute 120 of one who is out", town.where(1, 120), -1);
         Due.due("15: minute -1", town.where(0, -1), -1);
         Due.due("15: person 2", town.where(2, 50), -1);
         Due.due("15: person -1", town.where(-1, 50), -1);

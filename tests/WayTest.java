@@ -39,6 +39,13 @@ public final class WayTest {
         row(town, 0, 0, 0, 9, 0, 1, 2, 3, 4, 5, 6, 7, 8, 9);
         row(town, 0, 7, 9, 7, 9, 8, 7);
         row(town, 0, 30, 2, 0, 2, 1, 0);
+        // One after the other, without a change in between.
+        town.person(2);
+        Due.due("36: of one at a minute", town.soon(0, 1, 0, 2), 3);
+        Due.due("36: of another one a minute sooner", town.soon(1, 0, 0, 2), 2);
+        Due.due("36: a minute later", town.soon(1, 1, 0, 2), 3);
+        Due.due("36: from the next", town.soon(1, 1, 1, 2), 2);
+        Due.due("36: to the next", town.soon(1, 1, 1, 3), 3);
         town.street(9, 2, 1);
         row(town, 0, 0, 0, 9, 0, 1, 2, 9);
         town.street(2, 9, 0);
@@ -179,6 +186,10 @@ public final class WayTest {
         ThreeColours town = new ThreeColours();
         Due.due("38: nobody, one order", town.file(1, 1, -1), 1);
         Due.due("38: nobody is the first", town.file(1, 1, 0), -1);
+        ThreeColours lone = new ThreeColours();
+        lone.person(3);
+        Due.due("38: one alone", lone.file(8, 1, -1), 1);
+        Due.due("38: is the first", lone.file(8, 1, 0), 0);
         int[] coats = {1, 2, 1, 2, 1};
         for (int coat : coats) {
             town.person(coat);
