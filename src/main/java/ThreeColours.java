@@ -1535,15 +1535,8 @@ public final class ThreeColours {
 
         /** For each WINDOW 127 less its LIMIT; nothing for those that are left out; one less for an eased one. */
         long spareOf(int row, int kept, int eased) {
-            long left = spare[row];
-            for (int window = 0; window < WINDOWS; window++) {
-                if ((kept >> window & 1) == 0) {
-                    left &= ~(255L << 8 * window);
-                } else if (window == eased) {
-                    left -= 1L << 8 * window;
-                }
-            }
-            return left;
+            long left = spare[row] & bytesOf(kept);
+            return eased == NONE ? left : left - (1L << 8 * eased);
         }
 
         /**
@@ -1554,6 +1547,31 @@ public final class ThreeColours {
         long mayFail(int slot, long seen, long load, long left) {
             long open = load + more[slot] & OVER;
             return open == 0 ? 0 : open & counted(seen | rest[slot]) + left;
+        }
+
+        /**
+         * Whether one choice shows the WINDOWS that matter nothing in the open rows but what they see anyway, or would
+         * see with another choice.
+         */
+        boolean showsNoMore(int slot, int other, long[] seen, int from, int open, long matters) {
+            for (int row = 0; row < rows; row++) {
+                if ((open >> row & 1) == 1) {
+                    long known = seen[from + row] | shown[other * MONTHS + row];
+                    if ((shown[slot * MONTHS + row] & ~known & matters) != 0) {
+                        return false;
+                    }
+                }
+            }
+            return true;
+        }
+
+        /** All bits of the bytes whose WINDOWS are told as bits. */
+        static long bytesOf(int windows) {
+            long bytes = 0;
+            for (int window = 0; window < WINDOWS; window++) {
+                bytes |= (windows >> window & 1) * 255L << 8 * window;
+            }
+            return bytes;
         }
 
         /** How many bits each byte has. */
@@ -1587,6 +1605,7 @@ public final class ThreeColours {
         int value;
         private int fewest;
         private int aim;
+        private long matters; // the bytes of all WINDOWS that are not left out
         private int months;
         private int changes = -1;
 
@@ -1630,6 +1649,7 @@ public final class ThreeColours {
 
         private void start(int wantedAim, int kept, int eased) {
             aim = wantedAim;
+            matters = Canvas.bytesOf(kept);
             good = 0;
             fewest = 255 | 255 << 8 | 255 << 16;
             for (int row = 0; row < canvas.rows; row++) {
@@ -1701,7 +1721,7 @@ public final class ThreeColours {
                 }
                 int slot = thing * CHOICES + choice;
                 int gain = gained + canvas.gain[slot];
-                if (aim == HIGHER && gain + topGain[thing + 1] <= value) {
+                if (aim == HIGHER && gain + topGain[thing + 1] <= value || aim != ALL && isOutdone(thing, choice, open)) {
                     continue;
                 }
                 int left = look(thing, slot, open);
@@ -1715,6 +1735,22 @@ public final class ThreeColours {
                     explore(thing + 1, gain, tallied + canvas.tally[slot], left);
                 }
             }
+        }
+
+        /** Whether another choice is as good in all that is sought, so that this one need not be tried. */
+        private boolean isOutdone(int thing, int choice, int open) {
+            int slot = thing * CHOICES + choice;
+            int from = thing * MONTHS;
+            for (int other = 0; other < CHOICES; other++) {
+                int rival = thing * CHOICES + other;
+                int more = aim == HIGHER ? canvas.gain[rival] - canvas.gain[slot] : 0;
+                if ((canvas.choices[thing] >> other & 1) == 1 && other != choice && more >= 0
+                        && canvas.showsNoMore(rival, slot, seen, from, open, matters)
+                        && (other < choice || more > 0 || !canvas.showsNoMore(slot, rival, seen, from, open, matters))) {
+                    return true;
+                }
+            }
+            return false;
         }
 
         /** The rows that are still open with that choice of a THING. */
@@ -1794,20 +1830,19 @@ public final class ThreeColours {
             changes = town.changes;
             months = wanted;
             least = Integer.MAX_VALUE;
-            long open = 0;
             for (int row = 0; row < canvas.rows; row++) {
                 spare[row] = canvas.spareOf(row, (1 << WINDOWS) - 1, NONE);
                 seen[row] = 0;
-                open |= canvas.mayFail(row, 0, spare[row], spare[row]);
             }
             cheapest[town.things] = 0;
             for (int thing = town.things - 1; thing >= 0; thing--) {
                 sumUp(thing);
             }
+            int open = stillOpen(0, 0, (1 << canvas.rows) - 1);
             if (open == 0) {
                 record(0, cheapest[0], 0);
             } else {
-                explore(0, 0);
+                explore(0, 0, 0, open);
             }
         }
 
@@ -1823,48 +1858,72 @@ public final class ThreeColours {
             cheapest[thing] = cheapest[thing + 1] + low;
         }
 
-        private void explore(int thing, int spent) {
+        /** WINDOWS that do not HOLD in one row are walled up in all; the open rows are those in which one more may fail. */
+        private void explore(int thing, int spent, long failed, int open) {
             if (thing >= town.things) {
                 return;
             }
             for (int choice = 0; choice < CHOICES; choice++) {
                 int slot = thing * CHOICES + choice;
                 int price = spent + canvas.price[slot];
-                if ((canvas.choices[thing] >> choice & 1) == 0 || price + cheapest[thing + 1] >= least) {
+                if ((canvas.choices[thing] >> choice & 1) == 0 || price + cheapest[thing + 1] >= least
+                        || isOutdone(thing, choice, failed, open)) {
                     continue;
                 }
-                long fails = look(thing, slot);
+                long fails = failed | look(thing, slot, open);
                 int sum = price + cheapest[thing + 1] + shutting(fails);
                 if (sum >= least) {
                     continue;
                 }
                 chosen[thing] = choice;
-                if (mayFail(thing + 1) == fails) {
+                int left = stillOpen(thing + 1, fails, open);
+                if (left == 0) {
                     record(thing + 1, sum, fails);
                 } else {
-                    explore(thing + 1, price);
+                    explore(thing + 1, price, fails, left);
                 }
             }
         }
 
-        private long look(int thing, int slot) {
+        /** Whether another choice is ahead of this one, whatever later THINGS have. */
+        private boolean isOutdone(int thing, int choice, long failed, int open) {
+            int slot = thing * CHOICES + choice;
+            long matters = ~((failed >>> 7) * 255);
+            for (int other = 0; other < CHOICES; other++) {
+                int rival = thing * CHOICES + other;
+                int less = canvas.price[slot] - canvas.price[rival];
+                if ((canvas.choices[thing] >> other & 1) == 1 && (less > 0 || less == 0 && other < choice)
+                        && canvas.showsNoMore(rival, slot, seen, thing * MONTHS, open, matters)) {
+                    return true;
+                }
+            }
+            return false;
+        }
+
+        private long look(int thing, int slot, int open) {
             long fails = 0;
             for (int row = 0; row < canvas.rows; row++) {
-                long view = seen[thing * MONTHS + row] | canvas.shown[slot * MONTHS + row];
-                seen[(thing + 1) * MONTHS + row] = view;
-                fails |= Canvas.counted(view) + spare[row] & Canvas.OVER;
+                if ((open >> row & 1) == 1) {
+                    long view = seen[thing * MONTHS + row] | canvas.shown[slot * MONTHS + row];
+                    seen[(thing + 1) * MONTHS + row] = view;
+                    fails |= Canvas.counted(view) + spare[row] & Canvas.OVER;
+                }
             }
             return fails;
         }
 
-        /** WINDOWS that do not HOLD if all later THINGS show all that they may. */
-        private long mayFail(int thing) {
-            long fails = 0;
+        private int stillOpen(int thing, long failed, int open) {
+            int left = 0;
             for (int row = 0; row < canvas.rows; row++) {
-                int slot = thing * MONTHS + row;
-                fails |= canvas.mayFail(slot, seen[slot], Canvas.counted(seen[slot]) + spare[row], spare[row]);
+                if ((open >> row & 1) == 1) {
+                    int slot = thing * MONTHS + row;
+                    long load = Canvas.counted(seen[slot]) + spare[row];
+                    if ((canvas.mayFail(slot, seen[slot], load, spare[row]) & ~failed) != 0) {
+                        left |= 1 << row;
+                    }
+                }
             }
-            return fails;
+            return left;
         }
 
         private int shutting(long fails) {
