@@ -472,6 +472,24 @@ public final class PaintTest {
         // With 2 and 3 things 2, 9 stay or are grey; with 3 and 4 thing 3; with 2 and 4 things 1, 8 and 3.
         Due.due("27: in how many ways", town.best(ALL, 0), 4 + 2 + 8);
         Due.due("34: eight windows see the same", town.third(ALL, 4), 0);
+        // The last of ten THINGS settles it.
+        town = Due.under("limit 1");
+        for (int i = 0; i < 10; i++) {
+            town.thing(0, i == 9 ? 2 : 1, i == 9 ? 1 : 2, i == 9 ? 5 : 1, 1);
+        }
+        town.window(1023, 0, 7);
+        Due.due("31: the last is painted", town.mend(ALL, -1), 5);
+        Due.due("31: as all the others are", town.mend(ALL, 9), 1);
+        Due.due("31: which stay", town.mend(ALL, 0), 1);
+        Due.due("32: none walled up", town.shut(ALL), 0);
+        Due.due("27: all one, all two or all grey", town.best(ALL, 2), 3);
+        Due.due("27: all two, the last as it is", town.best(ALL, 1), 0);
+        Due.due("28: the last", town.paint(ALL, 9), 2);
+        town.put(9, 5, 1);
+        town.put(8, 5, 1);
+        Due.due("33: the last and the last but one", town.bars(ALL), 1);
+        Due.due("32: walled up", town.shut(ALL), 1);
+        Due.due("31: what must be is painted all the same", town.mend(ALL, -1), 5 + 1 + 7);
     }
 
     private static void wrongNumbers() {

@@ -602,6 +602,15 @@ public final class ThreeColours {
         return Math.max(0, Math.min(highest, number));
     }
 
+    /** The lowest number that some bits tell; there is one among the first ten. */
+    private static int lowestOf(int bits) {
+        int lowest = 0;
+        while (lowest < PLACES && (bits >> lowest & 1) == 0) {
+            lowest++;
+        }
+        return lowest;
+    }
+
     private int refuse(int reason) {
         latest = reason;
         // The reasons are -1, -2, -3, -5, -6: their counters lie side by side.
@@ -1350,7 +1359,7 @@ public final class ThreeColours {
                 int fails = failing(minute);
                 if (fails != 0 && firstMinute == NONE) {
                     firstMinute = minute;
-                    firstWindow = Integer.numberOfTrailingZeros(fails);
+                    firstWindow = lowestOf(fails);
                 }
                 total += Integer.bitCount(fails);
                 for (int window = 0; window < town.windows; window++) {
@@ -2032,7 +2041,7 @@ public final class ThreeColours {
             steps[minute] = from;
             for (int now = minute + 1; now <= soonest; now++) {
                 int may = (1 << place | town.streets[place]) & reached[now];
-                place = may == 0 ? place : Integer.numberOfTrailingZeros(may);
+                place = may == 0 ? place : lowestOf(may);
                 steps[now] = place;
             }
         }
