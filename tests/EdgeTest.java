@@ -31,7 +31,7 @@ public final class EdgeTest {
                     numbers[j] = kind == 0 ? EDGES[random.nextInt(EDGES.length)]
                             : EDGES[6 + random.nextInt(kind == 1 ? 8 : 3)];
                 }
-                if (!call.getName().equals("thing") || pair.it.count(0) < 6) {
+                if (!call.getName().equals("thing") || pair.count(0) < 6) {
                     pair.call(call.getName(), numbers);
                 }
             }

@@ -87,7 +87,7 @@ public final class FuzzTest {
             pair.call("person", upTo(7));
         }
         for (int i = random.nextInt(15); i > 0; i--) {
-            pair.call("walk", random.nextInt(pair.it.count(2)), upTo(random.nextBoolean() ? 119 : 9), upTo(9));
+            pair.call("walk", random.nextInt(pair.count(2)), upTo(random.nextBoolean() ? 119 : 9), upTo(9));
         }
         for (int i = 6 + random.nextInt(12); i > 0; i--) {
             pair.call("street", upTo(9), upTo(9), 1);
@@ -163,7 +163,7 @@ public final class FuzzTest {
     }
 
     private int some(int what, int most) {
-        int n = pair.it.count(what);
+        int n = pair.count(what);
         return random.nextInt(25) == 0 ? wild(most) : n == 0 ? 0 : random.nextInt(n);
     }
 
@@ -174,7 +174,7 @@ public final class FuzzTest {
     private void build() {
         switch (random.nextInt(16)) {
             case 0: case 1: case 2:
-                if (pair.it.count(0) < mostThings || random.nextInt(40) == 0 && mostThings > 8) {
+                if (pair.count(0) < mostThings || random.nextInt(40) == 0 && mostThings > 8) {
                     pair.call("thing", wild(3), wild(7), wild(7), price(), price());
                 }
                 break;
@@ -239,7 +239,7 @@ public final class FuzzTest {
         if (n < 4) {
             pair.law(texts.law());
             pair.call("fault");
-            pair.call("force", pair.it.count(3) - 1);
+            pair.call("force", pair.count(3) - 1);
         } else if (n < 7) {
             pair.law(texts.spoiltLaw());
             pair.call("fault");

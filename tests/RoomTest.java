@@ -29,6 +29,8 @@ public final class RoomTest {
         long asked = bean.getThreadAllocatedBytes(id) - before;
         System.out.println("a run of dear calls: " + asked + " bytes");
         Due.holds("room: calls make nothing but laws", asked < 20_000);
+        town = new ThreeColours();
+        town.image(0);
         before = bean.getThreadAllocatedBytes(id);
         for (int i = 0; i < 100; i++) {
             town.feed(0x6c696d69, 0x7420332b, 0x332b332b, 0x332b332b, 0x332b3320);
@@ -61,7 +63,7 @@ public final class RoomTest {
         town.law();
         town.force(0);
         town.image(0);
-        for (int i = 0; i < 30; i++) {
+        for (int i = 0; i < 29; i++) {
             town.month(i % 12);
             town.best(1 + i, 2);
             town.mend(1 + i, -1);

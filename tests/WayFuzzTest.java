@@ -65,7 +65,7 @@ public final class WayFuzzTest {
             pair.call("judge", what);
             pair.call("near", what);
         }
-        for (int window = 0; window < pair.it.count(1); window++) {
+        for (int window = 0; window < pair.count(1); window++) {
             pair.call("bad", window);
         }
         for (int i = 0; i < 8; i++) {

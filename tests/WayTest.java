@@ -242,14 +242,8 @@ public final class WayTest {
         Due.due("40: no day", town.drawn(0, 0), -1);
         Due.due("39: nobody", town.day(0), 0);
         Due.due("40: nobody", town.drawn(0, 0), -1);
-        town.person(0);
-        town.person(0);
-        town.person(0);
-        for (int one = 0; one < 10; one++) {
-            town.street(one, (one + 1) % 10, 1);
-            town.street(one, (one + 4) % 10, one % 2);
-        }
         for (int seed : new int[] {0, 1, 77, 999_999, 1_000_000}) {
+            town = ring();
             Due.due("39: no window", town.day(seed), 0);
             long s = seed;
             int[] at = new int[3];
@@ -281,7 +275,20 @@ public final class WayTest {
         Due.due("39: status then", town.status(), 0);
     }
 
-    /** The PLACES next to one in the town of days(), by their numbers. */
+    /** Three PEOPLE, and STREETS round all PLACES and across. */
+    private static ThreeColours ring() {
+        ThreeColours town = new ThreeColours();
+        town.person(0);
+        town.person(0);
+        town.person(0);
+        for (int one = 0; one < 10; one++) {
+            town.street(one, (one + 1) % 10, 1);
+            town.street(one, (one + 4) % 10, one % 2);
+        }
+        return town;
+    }
+
+    /** The PLACES next to one in the town of ring(), by their numbers. */
     private static int[] nextTo(int place) {
         int[] all = new int[10];
         int n = 0;

@@ -6,6 +6,7 @@ final class SightBounds {
     }
 
     static void all() {
+        meanings();
         broken();
         clausesHold();
         lastClause();
@@ -38,6 +39,47 @@ final class SightBounds {
 
     private static void tells(String law, int limit) {
         Bound.due("'" + law + "'", limit(law), limit);
+    }
+
+    private static void meanings() {
+        Bound.by("II", "SUM: TERM {(\"+\" | \"-\") TERM}. TERM: PART {(\"*\" | \"/\") PART}.");
+        tells("limit 1+2*3", 7);
+        tells("limit 2*3+1", 7);
+        tells("limit 8-2*3", 2);
+        tells("limit 9-3-2", 4);
+        tells("limit 9-3+2", 8);
+        tells("limit 100/10/2", 5);
+        tells("limit 6/4*4", 4);
+        tells("limit 6*4/4", 6);
+        tells("limit 9-[3-2]", 8);
+        tells("limit [1+2]*2", 6);
+        tells("limit [[[[[[[[1]+1]+1]+1]+1]+1]+1]+0]", 7);
+        tells("limit 1" + "+1".repeat(24) + "-1".repeat(20), 5);
+        tells("limit 7" + "*1".repeat(49), 7);
+        tells("limit 1 if 1+2*3=7 and 7=2*3+1", 1);
+
+        Bound.by("II", "TEST: BOTH {\"or\" BOTH}. BOTH: PLAIN {\"and\" PLAIN}.");
+        tells("limit 1 if " + "1=0 or ".repeat(23) + "1=1", 1);
+        tells("limit 1 if 1=1" + " or 1=0".repeat(23), 1);
+        tells("limit 1 if " + "1=0 or ".repeat(23) + "1=0", 3);
+        tells("limit 1 if " + "1=1 and ".repeat(23) + "1=1", 1);
+        tells("limit 1 if " + "1=1 and ".repeat(23) + "1=0", 3);
+        tells("limit 1 if 1=0 and 1=0 or 1=1", 1);
+        tells("limit 1 if 1=1 or 1=1 and 1=0", 1);
+
+        Bound.by("II", "PLAIN: \"not\" PLAIN | \"(\" TEST \")\" | SUM (\"<\" | \">\" | \"=\") SUM.");
+        for (int left = 0; left < 3; left++) {
+            tells("limit 1 if " + left + "<1", left < 1 ? 1 : 3);
+            tells("limit 1 if " + left + ">1", left > 1 ? 1 : 3);
+            tells("limit 1 if " + left + "=1", left == 1 ? 1 : 3);
+            tells("limit 1 if not " + left + "<1", left < 1 ? 3 : 1);
+            tells("limit 1 if not " + left + ">1", left > 1 ? 3 : 1);
+            tells("limit 1 if not " + left + "=1", left == 1 ? 3 : 1);
+        }
+        tells("limit 1 if " + "not ".repeat(96) + "1=1", 1);
+        tells("limit 1 if " + "not ".repeat(95) + "1=1", 3);
+        tells("limit 1 if " + "not (".repeat(8) + "1=1" + ")".repeat(8), 1);
+        tells("limit 1 if " + "not (".repeat(7) + "1=1" + ")".repeat(7), 3);
     }
 
     private static void broken() {
@@ -135,6 +177,11 @@ final class SightBounds {
         tells("limit 0;".repeat(11) + "limit 7", 7);
         tells("limit 0", 0);
         tells("limit 4;limit 0", 0);
+        tells("limit 1/0;limit 2", 2);
+        tells("limit 2;limit 1/0;limit 1 if 1/0=1", 2);
+        tells("limit 1000*1000*1000*2;limit 2", 2);
+        tells("limit 1 if 1/0=1;limit 2", 2);
+        tells("limit 1;" + "limit 1/0;".repeat(10) + "limit 2 if 1=0", 1);
 
         Bound.by("II", "What it is not asked of is 0.");
         tells("limit 2 if thing=0 and place=0 and colour=0 and sort=0 and coat=0 and person=0", 2);
@@ -270,6 +317,14 @@ final class SightBounds {
         town.thing(0, 1, 1, 0, 0);
         town.window(1, 0, 0);
         Bound.due("a broken clause does not hold", town.sees(0, 0, 0), 2);
+        town = Due.under("free if colour=2");
+        town.thing(0, 2, 2, 0, 0);
+        town.thing(0, 1, 1, 0, 0);
+        town.window(1, 0, 0);
+        town.same(1, 2, 1);
+        Bound.due("free is the colour it shows, not the lowest that counts as one with it", town.sees(0, 0, 0), 0);
+        town.turn(0, 0, 2);
+        Bound.due("and no other that counts as one with it", town.sees(0, 0, 0), 1 << 1);
         town = Due.under("free;free if 1=0");
         town.thing(0, 1, 1, 0, 0);
         town.window(1, 0, 0);
@@ -341,6 +396,31 @@ final class SightBounds {
         Bound.leaves("thing 0 of none", Towns::empty, -1, it -> it.costs(0, 0));
     }
 
+    /** What one WINDOW sees at one MINUTE is not what its neighbours see, or it sees a MINUTE later. */
+    private static void eachByItself() {
+        ThreeColours town = Due.under("limit [minute+window]-[minute+window]/9*9;hidden if thing=window and minute-minute/2*2=0;"
+                + "free if place=window and person=minute-minute/2*2");
+        for (int i = 0; i < 8; i++) {
+            town.thing(0, i % 3 + 1, 0, 0, 0);
+        }
+        for (int i = 0; i < 8; i++) {
+            town.window(1 << i, 1 << i, 0);
+        }
+        town.person(6);
+        town.person(7);
+        town.walk(0, 0, 3);
+        town.walk(1, 0, 4);
+        for (int minute : new int[] {0, 1, 2, 7, 8, 117, 118, 119}) {
+            int odd = minute % 2;
+            for (int window = 0; window < 8; window++) {
+                int things = odd == 0 ? 0 : 1 << window % 3 + 1;
+                int coats = window == 3 && odd == 1 ? 1 << 6 : window == 4 && odd == 0 ? 1 << 7 : 0;
+                Bound.due("window " + window + " at " + minute, town.sees(window, minute, 0), things | coats);
+                Bound.due("limit of " + window + " at " + minute, town.sees(window, minute, 1), (minute + window) % 9);
+            }
+        }
+    }
+
     private static void sees() {
         Bound.by(24, "SEEN in the MONTH at a MINUTE (what 0, as bits), the LIMIT (1), whether it HOLDS (2; 1, 0).");
         ThreeColours town = Due.under("limit 1 if window=7 and minute=119;limit 2 if window=7 and minute<119");
@@ -360,6 +440,7 @@ final class SightBounds {
         Bound.due("one goes home at 119", town.sees(7, 119, 0), 1 << 7);
         Bound.due("it holds", town.sees(7, 119, 2), 1);
         Bound.due("at 118 nobody is gone yet", town.sees(7, 118, 0), 1 << 7 | 1);
+        eachByItself();
 
         Bound.by(24, "NONE.");
         Bound.asks("sees", Towns::busy, new int[] {1, 50, 0}, new int[][] {{0, 2}, {0, 119}, {0, 2}}, -1,

@@ -63,6 +63,15 @@ final class TapeBounds {
         }
         Bound.due("400 bytes are all", town.feed(0, 0, 0, 0, 0), -1);
         Bound.due("400 bytes", town.count(5), 400);
+        town = new ThreeColours();
+        town.window(0, 0, 0);
+        for (int i = 0; i < 6; i++) {
+            Bound.due("six of fifty parts each", Due.law(town, "limit " + times("1", i + 3, "+") + times("+0", 47 - i, "")), i);
+        }
+        for (int i = 5; i >= 0; i--) {
+            town.force(i);
+            Bound.due("each is as it was read", town.sees(0, 0, 1), i + 3);
+        }
         good("limit 3" + " ".repeat(393));
         good("limit " + "0".repeat(393) + "8");
     }

@@ -139,7 +139,12 @@ final class WayBounds {
     private static void days() {
         Bound.by("IV", "DRAWS: s becomes (s times 1103 and 12345) modulo 1,000,003, at first s is the SEED (0 .. 1,000,000); a DRAW of n is "
                 + "the new s modulo n.");
-        for (int seed : new int[] {0, 1, 906, 907, 999_999, 1_000_000}) {
+        // What 895 becomes is below 1,000,003, what 896 becomes is above; 870,345 becomes 0, 327,279 becomes 1,000,002.
+        Bound.due("895 becomes", lowest(895, 1), 895 * 1103 + 12345);
+        Bound.due("896 becomes", lowest(896, 1), 896 * 1103 + 12345 - 1_000_003);
+        Bound.due("870,345 becomes", lowest(870_345, 1), 0);
+        Bound.due("327,279 becomes", lowest(327_279, 1), 1_000_002);
+        for (int seed : new int[] {0, 1, 895, 896, 870_345, 327_279, 999_999, 1_000_000}) {
             ThreeColours town = new ThreeColours();
             for (int i = 0; i < 5; i++) {
                 town.person(0);
@@ -209,6 +214,23 @@ final class WayBounds {
         Bound.due("from 9 to 0 at 110", town.soon(0, 110, 9, 0), 119);
         Bound.due("to the same one", town.soon(0, 7, 9, 9), 7);
         Bound.due("the last one of five", fifth().soon(4, 0, 0, 1), 1);
+        for (int person = 0; person < 2; person++) {
+            town = road("limit 2");
+            town.person(2);
+            town.person(3);
+            town.window(0, 1 << 5, 0);
+            town.walk(2, 0, 5);
+            town.walk(person, 0, 5);
+            for (int minute : new int[] {0, 110, 111, 119}) {
+                for (int from = 0; from < 10; from++) {
+                    for (int to = 0; to < 10; to++) {
+                        int then = minute + Math.abs(from - to);
+                        Bound.due("one " + person + " at " + minute + " from " + from + " to " + to,
+                                town.soon(person, minute, from, to), then < 120 ? then : -1);
+                    }
+                }
+            }
+        }
 
         Bound.by(36, "NONE.");
         Supplier<ThreeColours> open = () -> road("limit 8");
@@ -240,6 +262,15 @@ final class WayBounds {
         }
         for (int at = -1; at <= 10; at++) {
             Bound.due("from 0 on, at " + at, town.way(0, 0, 9, 0, at), at < 0 || at > 9 ? -1 : 9 - at);
+        }
+        for (int from = 0; from < 10; from++) {
+            for (int to = 0; to < 10; to++) {
+                int there = Math.min(from, to) + Math.abs(from - to) / 2;
+                int at = Math.abs(from - there);
+                Bound.due("from " + from + " to " + to + " in the midst", town.way(0, 60, from, to, 60 + at), there);
+                Bound.due("from " + from + " to " + to + " at the end", town.way(0, 60, from, to, 60 + Math.abs(from - to)), to);
+                Bound.due("from " + from + " to " + to + " behind it", town.way(0, 60, from, to, 61 + Math.abs(from - to)), -1);
+            }
         }
         Bound.due("to the same one: ahead", town.way(0, 50, 3, 3, 49), -1);
         Bound.due("to the same one", town.way(0, 50, 3, 3, 50), 3);

@@ -1805,6 +1805,7 @@ public final class ThreeColours {
 
     /** Painting and walling up together, at the least. */
     private static final class Mender {
+        private static final int DEARER_THAN_ALL = 1_000_000;
         private final Town town;
         private final Canvas canvas;
         private final long[] seen = new long[(THINGS + 1) * MONTHS];
@@ -1838,7 +1839,7 @@ public final class ThreeColours {
             }
             changes = town.changes;
             months = wanted;
-            least = Integer.MAX_VALUE;
+            least = DEARER_THAN_ALL;
             for (int row = 0; row < canvas.rows; row++) {
                 spare[row] = canvas.spareOf(row, (1 << WINDOWS) - 1, NONE);
                 seen[row] = 0;
@@ -1856,7 +1857,7 @@ public final class ThreeColours {
         }
 
         private void sumUp(int thing) {
-            int low = Integer.MAX_VALUE;
+            int low = DEARER_THAN_ALL;
             for (int choice = 0; choice < CHOICES; choice++) {
                 int price = canvas.price[thing * CHOICES + choice];
                 if ((canvas.choices[thing] >> choice & 1) == 1 && price < low) {
