@@ -10,6 +10,7 @@ final class ImageBounds {
     static void all() {
         kept();
         others();
+        pairs();
         image();
         back();
         count();
@@ -139,6 +140,38 @@ final class ImageBounds {
             Bound.due("image " + k + ": walk", town.where(0, 11), 2 + k);
             Bound.due("image " + k + ": law", town.sees(0, 0, 1), 4 + k);
             Bound.due("image " + k + ": month", town.count(12), k + 1);
+        }
+    }
+
+    /** All STREETS, all colours told to COUNT AS ONE in one IMAGE, every other of them in the other one. */
+    private static void pairs() {
+        ThreeColours town = new ThreeColours();
+        for (int step = 1; step <= 2; step++) {
+            for (int one = 0; one < 10; one++) {
+                for (int other = one + 1; other < 10; other++) {
+                    int is = step == 1 || (one + other) % 2 == 0 ? 1 : 0;
+                    town.street(one, other, is);
+                    if (other < 8) {
+                        town.same(one, other, is);
+                    }
+                }
+            }
+            town.image(2 - step);
+        }
+        for (int k = 1; k >= 0; k--) {
+            town.back(k);
+            for (int colour = 0; colour < 8; colour++) {
+                Bound.due("image " + k + ": counts(" + colour + ")", town.counts(colour), k == 1 ? 0 : colour % 2);
+            }
+            for (int one = 0; one < 10; one++) {
+                for (int other = one + 1; other < 10; other++) {
+                    int due = k == 1 || (one + other) % 2 == 0 ? 1 : 0;
+                    Bound.due("image " + k + ": street " + one + ", " + other, town.street(one, other, 0), due);
+                    if (other < 8) {
+                        Bound.due("image " + k + ": same " + other + ", " + one, town.same(other, one, 0), due);
+                    }
+                }
+            }
         }
     }
 

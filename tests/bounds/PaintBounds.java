@@ -194,6 +194,33 @@ final class PaintBounds {
         town.put(0, 4, 8);
         Bound.due("less than it costs", town.best(1, 1), 0);
         Bound.due("not painted", town.best(1, 0), 1);
+        for (int colour = 0; colour < 8; colour++) {
+            for (int wished = 0; wished < 8; wished++) {
+                eachColour(colour, wished);
+            }
+        }
+    }
+
+    /** A colour costs 20 less its number; in the second town none but grey may be seen. */
+    private static void eachColour(int colour, int wished) {
+        String what = "of colour " + colour + ", wished " + wished;
+        ThreeColours town = Due.under("cost 20-colour");
+        town.thing(0, colour, wished, 99, 30);
+        town.window(1, 0, 99);
+        Bound.due(what, town.best(1, 1), colour == wished ? 30 : 10 + wished);
+        town.put(0, 5, 1);
+        Bound.due(what + ", as it must", town.best(1, 1), colour == wished ? 30 : 10 + wished);
+        Bound.due(what + ", mended", town.mend(1, -1), colour == wished ? 0 : 20 - wished);
+        town = Due.under("limit 0;free if colour=0;cost 20-colour");
+        town.thing(0, colour, wished, 99, 30);
+        town.window(1, 0, 99);
+        int grey = wished != 0 ? colour == 0 ? 0 : -20 : colour == 0 ? 30 : 10;
+        Bound.due(what + ", but grey", town.best(1, 1), grey);
+        Bound.due(what + ", mended grey", town.mend(1, -1), colour == 0 ? 0 : 20);
+        Bound.due(what + ", mended to grey", town.mend(1, 0), 0);
+        town.put(0, 5, 1);
+        Bound.due(what + ", as it must or not at all", town.best(1, 1), wished == 0 ? grey : -10_000);
+        Bound.due(what + ", walled up", town.shut(1), wished == 0 ? 0 : 1);
     }
 
     private static void firsts() {

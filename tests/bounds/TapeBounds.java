@@ -300,6 +300,10 @@ final class TapeBounds {
         good("limit " + times("[[[[[[[[1]]]]]]]]", 3, "+"));
         bad("limit " + times("[[[[[[[[1]]]]]]]]", 3, "+") + "+[[[[[[[[[1", 6 + 3 * 18 + 8);
         good("free if ((((((((1=1)))))))) or ((((((((1=1))))))))");
+        good("free if " + times("(1=1)", 25, " or "));
+        good("free if " + times("([1]=[1])", 25, "and"));
+        good("free if " + times("(([1]=[1]))", 25, "or"));
+        good("limit " + times("[[1]]", 50, "+"));
         good("free if (not (not (not (not (not (not (not (1=1))))))))");
         bad("free if (not (not (not (not (not (not (not (not (1=1)))))))))", 8 + 8 * 5);
         good("limit [[[[[[[[1]]]]]]]] if [[[[[[[[1]]]]]]]]=1");

@@ -570,9 +570,37 @@ final class TownBounds {
         town.same(3, 4, 0);
         Bound.due("broken in the midst: 7", town.counts(7), 4);
         Bound.due("broken in the midst: 3", town.counts(3), 0);
+        for (int step = 1; step < 8; step += 2) {
+            for (int start = 0; start < 8; start++) {
+                chain(step, start);
+            }
+        }
 
         Bound.by(12, "NONE.");
         Bound.asks("counts", Towns::busy, new int[] {0}, new int[][] {COLOUR}, -1, (it, n) -> it.counts(n[0]));
+    }
+
+    /** A chain of all colours in some order: each hangs together with all by its neighbours. */
+    private static void chain(int step, int start) {
+        ThreeColours town = new ThreeColours();
+        int[] order = new int[8];
+        for (int i = 0; i < 8; i++) {
+            order[i] = (start + i * step) % 8;
+            if (i > 0) {
+                town.same(order[i - 1], order[i], 1);
+            }
+        }
+        String what = "a chain " + java.util.Arrays.toString(order);
+        for (int colour = 0; colour < 8; colour++) {
+            Bound.due(what + ", colour " + colour, town.counts(colour), 0);
+        }
+        town.same(order[4], order[3], 0);
+        for (int i = 0; i < 8; i += 4) {
+            int lowest = Math.min(Math.min(order[i], order[i + 1]), Math.min(order[i + 2], order[i + 3]));
+            for (int j = i; j < i + 4; j++) {
+                Bound.due(what + " broken in the midst, colour " + order[j], town.counts(order[j]), lowest);
+            }
+        }
     }
 
     private static void month() {

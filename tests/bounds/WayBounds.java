@@ -42,6 +42,7 @@ final class WayBounds {
             town.turn(0, 1, 1023 - (1 << shut));
             Bound.due("where it would not be at " + shut, town.soon(0, 0, 0, 3), 3);
         }
+        windowsThatLook();
         town = road("limit 8;limit 0 if minute=119");
         town.window(0, 1 << 1, 0);
         Bound.due("the last minute of all", town.soon(0, 118, 0, 1), -1);
@@ -61,6 +62,39 @@ final class WayBounds {
         Bound.due("not at 4", town.soon(0, 4, 0, 0), 4);
         Bound.due("nor at 6", town.soon(0, 6, 0, 0), 6);
         Bound.due("its own walks do not matter to the one, those of the other do", town.soon(1, 4, 1, 1), -1);
+    }
+
+    /** WINDOWS that do not HOLD by what else they see matter where they look, and nowhere else. */
+    private static void windowsThatLook() {
+        for (int place = 0; place < 10; place++) {
+            ThreeColours town = road("limit 0;hidden if coat=1");
+            town.thing(0, 1, 1, 0, 0);
+            town.window(1, 1 << place, 0);
+            for (int from = 0; from < 10; from++) {
+                Bound.due("from " + from + " on, place " + place + " is looked at", town.soon(0, 0, from, from),
+                        from == place ? -1 : 0);
+            }
+            Bound.due("on to 9, place " + place + " is looked at", town.soon(0, 0, 0, 9), -1);
+            Bound.due("past place " + place, town.soon(0, 0, place == 9 ? 0 : place + 1, place == 9 ? 8 : 9),
+                    place == 9 ? 8 : 8 - place);
+            town.turn(0, 1, 0);
+            Bound.due("no place is looked at", town.soon(0, 0, 0, 9), 9);
+            town.turn(0, 1, 1 << place);
+            town.turn(0, 0, 0);
+            Bound.due("it holds, as it is hidden", town.soon(0, 0, 0, 9), 9);
+            town.person(2);
+            town.walk(1, 0, place);
+            Bound.due("and the other one, too", town.soon(0, 0, 0, 9), 9);
+        }
+        ThreeColours town = road("limit 0;limit 1 if window=7");
+        for (int i = 0; i < 8; i++) {
+            town.window(0, i < 7 ? 0 : 1 << 4, 0);
+        }
+        town.person(2);
+        town.walk(1, 0, 4);
+        Bound.due("the last of eight sees two there", town.soon(0, 0, 3, 4), -1);
+        town.coat(1, 1);
+        Bound.due("of the same coat", town.soon(0, 0, 3, 4), 1);
     }
 
     private static void soonest() {
@@ -83,6 +117,37 @@ final class WayBounds {
             town.street(middle, 9, 1);
             Bound.due("by " + middle, town.soon(0, 0, 5, 9), 2);
             Bound.due("the lowest of them", town.way(0, 0, 5, 9, 1), middle);
+        }
+        firstOfWays();
+    }
+
+    /** By 1 and 8 or by 2 and 3: the first differing PLACE tells, not the last. */
+    private static void firstOfWays() {
+        ThreeColours town = new ThreeColours();
+        town.person(0);
+        int[][] streets = {{0, 1}, {1, 8}, {8, 9}, {0, 2}, {2, 3}, {3, 9}};
+        for (int[] street : streets) {
+            town.street(street[0], street[1], 1);
+        }
+        int[] due = {0, 1, 8, 9};
+        for (int at = 0; at < 4; at++) {
+            Bound.due("the lower one ahead, at " + at, town.way(0, 116, 0, 9, 116 + at), due[at]);
+            Bound.due("the lower one ahead on the way back, at " + at, town.way(0, 0, 9, 0, at), new int[] {9, 3, 2, 0}[at]);
+        }
+        town.street(1, 8, 0);
+        Bound.due("the other one is left", town.way(0, 116, 0, 9, 117), 2);
+        town.street(0, 9, 1);
+        Bound.due("a shorter one", town.soon(0, 116, 0, 9), 117);
+        // It may not be at 7 ahead of 119, so that it goes where it is lower, as long as that is in time.
+        town = road("limit 8;limit 0 if minute<119");
+        town.street(5, 7, 1);
+        town.window(0, 1 << 7, 0);
+        int[][] waits = {{5, 7}, {5, 5, 7}, {5, 4, 5, 7}, {5, 4, 4, 5, 7}, {5, 4, 3, 4, 5, 7}};
+        for (int[] row : waits) {
+            int minute = 120 - row.length;
+            for (int at = 0; at < row.length; at++) {
+                Bound.due("from " + minute + " on, at " + (minute + at), town.way(0, minute, 5, 7, minute + at), row[at]);
+            }
         }
     }
 
@@ -242,6 +307,10 @@ final class WayBounds {
                 (it, n) -> it.soon(n[0], n[1], n[2], n[3]));
         Bound.leaves("one 0 of nobody", Towns::empty, -1, it -> it.soon(0, 0, 0, 0));
         Bound.leaves("no way", WayBounds::fifth, -1, it -> it.soon(0, 0, 0, 9));
+        for (int none : new int[] {-1, 10, Bound.MIN, Bound.MAX}) {
+            Bound.leaves("from " + none + " to the same", open, -1, it -> it.soon(0, 5, none, none));
+            Bound.leaves("at minute " + (none == 10 ? 120 : none), open, -1, it -> it.soon(0, none == 10 ? 120 : none, 4, 4));
+        }
     }
 
     /** Five PEOPLE and a STREET. */
@@ -285,6 +354,9 @@ final class WayBounds {
         Bound.asks("way", WayBounds::fifth, new int[] {0, 5, 0, 1, 6}, new int[][] {{0, 4}, null, null, null, {5, 6}}, -1,
                 (it, n) -> it.way(n[0], n[1], n[2], n[3], n[4]));
         Bound.leaves("one 0 of nobody", Towns::empty, -1, it -> it.way(0, 0, 0, 0, 0));
+        for (int none : new int[] {-1, 10, Bound.MIN, Bound.MAX}) {
+            Bound.leaves("from " + none + " to the same", open, -1, it -> it.way(0, 5, none, none, 5));
+        }
         for (int at : new int[] {-1, 0, 1, 119, 120, Bound.MIN, Bound.MAX}) {
             Bound.leaves("no way, at " + at, WayBounds::fifth, -1, it -> it.way(0, 0, 0, 9, at));
         }
