@@ -147,6 +147,11 @@ final class PaintBounds {
             town.window(3, 0, 0);
             Bound.due(head + " at minute 1", town.best(1, 2), 1);
         }
+        for (int thing = 0; thing < 10; thing++) {
+            for (int colour = 0; colour < 3; colour++) {
+                inOneMonth(thing, colour);
+            }
+        }
         for (int limit = 0; limit <= 8; limit++) {
             town = Due.under("limit " + limit);
             for (int i = 0; i < 8; i++) {
@@ -158,6 +163,37 @@ final class PaintBounds {
             town.turn(0, 0, (1 << limit) - 1);
             Bound.due("as many as the limit " + limit, town.best(ALL, 2), 1);
         }
+    }
+
+    /** One THING may not have one of its three colours in MONTH 10, another one may not have the next in MONTH 11. */
+    private static void inOneMonth(int thing, int colour) {
+        int next = (colour + 1) % 3;
+        int other = (thing + 1) % 10;
+        String law = "limit 0;free if not (month=10 and thing=" + thing + " and colour=" + colour + " or month=11 and thing=";
+        String what = "thing " + thing + ", colour " + colour;
+        ThreeColours town = alikeThings(law + other + " and colour=" + next + ")");
+        Bound.due(what + ", in neither", town.best(1023, 2), 59049);
+        Bound.due(what + ", in month 10", town.best(1 << 10, 2), 59049 / 3 * 2);
+        Bound.due(what + ", in month 11", town.best(1 << 11, 2), 59049 / 3 * 2);
+        Bound.due(what + ", in both", town.best(ALL, 2), 59049 / 9 * 4);
+        Bound.due(what + ", what the first has", town.paint(ALL, thing), colour == 1 ? 2 : 1);
+        Bound.due(what + ", what the next has", town.paint(ALL, other), next == 1 ? 2 : 1);
+        Bound.due(what + ", mended", town.mend(ALL, -1), colour == 2 ? 0 : 1);
+        Bound.due(what + ", mended: the first", town.mend(ALL, thing), colour == 1 ? 2 : 1);
+        town = alikeThings(law + thing + " and colour=" + next + ")");
+        int left = 3 - colour - next;
+        Bound.due(what + ", the third is left", town.best(ALL, 2), 59049 / 3);
+        Bound.due(what + ", it has that", town.paint(ALL, thing), left);
+        Bound.due(what + ", and mended", town.mend(ALL, thing), left);
+    }
+
+    private static ThreeColours alikeThings(String law) {
+        ThreeColours town = Due.under(law);
+        for (int i = 0; i < 10; i++) {
+            town.thing(0, 1, 2, 1, 0);
+        }
+        town.window(1023, 0, 99);
+        return town;
     }
 
     private static void values() {

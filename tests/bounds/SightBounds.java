@@ -398,7 +398,7 @@ final class SightBounds {
 
     /** What one WINDOW sees at one MINUTE is not what its neighbours see, or it sees a MINUTE later. */
     private static void eachByItself() {
-        ThreeColours town = Due.under("limit [minute+window]-[minute+window]/9*9;hidden if thing=window and minute-minute/2*2=0;"
+        ThreeColours town = Due.under("limit [minute+window*3]-[minute+window*3]/9*9;hidden if thing=window and minute-minute/2*2=0;"
                 + "free if place=window and person=minute-minute/2*2");
         for (int i = 0; i < 8; i++) {
             town.thing(0, i % 3 + 1, 0, 0, 0);
@@ -416,7 +416,28 @@ final class SightBounds {
                 int things = odd == 0 ? 0 : 1 << window % 3 + 1;
                 int coats = window == 3 && odd == 1 ? 1 << 6 : window == 4 && odd == 0 ? 1 << 7 : 0;
                 Bound.due("window " + window + " at " + minute, town.sees(window, minute, 0), things | coats);
-                Bound.due("limit of " + window + " at " + minute, town.sees(window, minute, 1), (minute + window) % 9);
+                Bound.due("limit of " + window + " at " + minute, town.sees(window, minute, 1), (minute + 3 * window) % 9);
+            }
+        }
+        town = Due.under("free if window+place+person*3=9;hidden if window*3+place=person*3+1");
+        for (int i = 0; i < 8; i++) {
+            town.window(0, 1023 - (1 << i), 0);
+        }
+        for (int i = 0; i < 5; i++) {
+            town.person(i + 2);
+            for (int minute = 0; minute < 10; minute++) {
+                town.walk(i, minute, (i + minute) % 10);
+            }
+        }
+        for (int minute = 0; minute < 10; minute++) {
+            for (int window = 0; window < 8; window++) {
+                int due = 0;
+                for (int i = 0; i < 5; i++) {
+                    int place = (i + minute) % 10;
+                    boolean counts = window + place + i * 3 != 9 && window * 3 + place != i * 3 + 1;
+                    due |= place != window && counts ? 1 << i + 2 : 0;
+                }
+                Bound.due("people from window " + window + " at " + minute, town.sees(window, minute, 0), due);
             }
         }
     }

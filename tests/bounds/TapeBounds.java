@@ -106,9 +106,35 @@ final class TapeBounds {
         bad("limit 3\u007f", 7);
         bad("limit 3\u0080", 7);
         bad("limit 3\u00ff", 7);
+        for (char sign = 0; sign < 256; sign++) {
+            everyByte(sign);
+        }
         bad("free;;free", 5);
         bad("limit ++3", 6);
         bad("limit 3>>2", 7);
+    }
+
+    /** A byte where a CLAUSE begins and ends, where a NUMBER ends, where a PART begins, and between two SUMS. */
+    private static void everyByte(char sign) {
+        boolean blank = sign == 32;
+        boolean letter = sign >= 'a' && sign <= 'z';
+        boolean digit = sign >= '0' && sign <= '9';
+        boolean between = sign == '+' || sign == '-' || sign == '*' || sign == '/';
+        boolean compares = sign == '<' || sign == '>' || sign == '=';
+        read(sign + "free", blank ? -1 : 0);
+        read("free" + sign, blank ? -1 : letter ? 0 : sign == ';' ? 5 : 4);
+        read("limit 3" + sign, blank || digit ? -1 : between || sign == ';' ? 8 : 7);
+        read("limit " + sign, digit ? -1 : blank || sign == '[' ? 7 : 6);
+        read("free if 1" + sign + "1", compares ? -1 : digit || between ? 11 : blank ? 10 : 9);
+    }
+
+    /** A LAW (-1), or none with the FAULT there. */
+    private static void read(String text, int fault) {
+        if (fault < 0) {
+            good(text);
+        } else {
+            bad(text, fault);
+        }
     }
 
     private static void clauses() {
@@ -194,6 +220,17 @@ final class TapeBounds {
         good("free if 1=1");
         bad("free if 1", 9);
         bad("free if 1;", 9);
+        bad("free if 1 1", 10);
+        bad("free if 1 1=1", 10);
+        bad("free if 1[1]", 9);
+        bad("free if 1 window=1", 10);
+        bad("free if 1 and 1=1", 10);
+        bad("free if 1 not 1=1", 10);
+        bad("free if 1(1=1)", 9);
+        bad("free if (1=1)(1=1)", 13);
+        bad("free if (1=1 or)", 15);
+        bad("free if 1=(1)", 10);
+        bad("free if 1=not 1", 10);
         bad("free if 1=", 10);
         bad("free if =1", 8);
         bad("free if 1=1=1", 11);

@@ -279,6 +279,7 @@ final class WayBounds {
         Bound.due("from 9 to 0 at 110", town.soon(0, 110, 9, 0), 119);
         Bound.due("to the same one", town.soon(0, 7, 9, 9), 7);
         Bound.due("the last one of five", fifth().soon(4, 0, 0, 1), 1);
+        alikeQuestions();
         for (int person = 0; person < 2; person++) {
             town = road("limit 2");
             town.person(2);
@@ -310,6 +311,21 @@ final class WayBounds {
         for (int none : new int[] {-1, 10, Bound.MIN, Bound.MAX}) {
             Bound.leaves("from " + none + " to the same", open, -1, it -> it.soon(0, 5, none, none));
             Bound.leaves("at minute " + (none == 10 ? 120 : none), open, -1, it -> it.soon(0, none == 10 ? 120 : none, 4, 4));
+        }
+    }
+
+    /** Alike questions one behind the other: each has its own answer. */
+    private static void alikeQuestions() {
+        ThreeColours town = road("limit 8");
+        town.person(2);
+        int[][] asked = {{0, 1, 0, 5}, {1, 0, 0, 5}, {0, 0, 1, 5}, {0, 1, 0, 5}, {0, 0, 0, 6}, {0, 0, 1, 0}, {0, 0, 0, 1}};
+        for (int[] it : asked) {
+            int then = it[1] + Math.abs(it[2] - it[3]);
+            String what = java.util.Arrays.toString(it);
+            Bound.due(what, town.soon(it[0], it[1], it[2], it[3]), then);
+            Bound.due(what + " at first", town.way(it[0], it[1], it[2], it[3], it[1]), it[2]);
+            Bound.due(what + " at last", town.way(it[0], it[1], it[2], it[3], then), it[3]);
+            Bound.due(what + " behind it", town.way(it[0], it[1], it[2], it[3], then + 1), -1);
         }
     }
 
