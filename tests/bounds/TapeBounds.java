@@ -74,6 +74,11 @@ final class TapeBounds {
         }
         good("limit 3" + " ".repeat(393));
         good("limit " + "0".repeat(393) + "8");
+        good("limit " + " ".repeat(390) + "coat");
+        good("limit 1 if 1" + " ".repeat(386) + "=1");
+        bad("limit " + " ".repeat(393) + "w", 399);
+        good("limit " + " ".repeat(388) + "person");
+        bad("limit " + " ".repeat(389) + "perso", 395);
     }
 
     private static void tokens() {
@@ -429,6 +434,15 @@ final class TapeBounds {
         Bound.due("the first four", town.end(4), 4);
         Bound.due("count(5)", town.count(5), 4);
         Bound.due("those are a law", town.law(), 0);
+        String[][] cut = {{"limit 1001", "9", "-1"}, {"limit 1001", "10", "6"}, {"limit sorts", "10", "-1"}, {"limit sorts", "9", "6"},
+            {"limit 3", "4", "0"}, {"limit 3;", "7", "-1"}, {"limit 3;", "8", "8"}, {"free if 1=1", "10", "10"}};
+        for (String[] row : cut) {
+            ThreeColours it = new ThreeColours();
+            Due.tape(it, row[0]);
+            it.end(Integer.parseInt(row[1]));
+            it.law();
+            Bound.due("the first " + row[1] + " of '" + row[0] + "' are read", it.fault(), Integer.parseInt(row[2]));
+        }
         town.feed(1, 1, 1, 1, 1);
         Bound.due("none of twenty", town.end(0), 0);
         Bound.due("count(5)", town.count(5), 0);
